@@ -992,11 +992,6 @@ public final class DuelRound {
 
         /** Puts to the needs of each of SOME those of all whom it needs, too. */
         void closeNeeds(int base, int some) {
-            for (int x = 0; x < duels.players; x++) {
-                if (bitOf(some, x) == 1) {
-                    needs[base + x] |= 1 << x;
-                }
-            }
             for (int via = 0; via < duels.players; via++) {
                 for (int x = 0; x < duels.players; x++) {
                     if (bitOf(some, x) == 1 && bitOf(needs[base + x], via) == 1) {
