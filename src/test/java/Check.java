@@ -26,15 +26,19 @@ final class Check {
         due(call, got ? 1 : 0, want ? 1 : 0);
     }
 
-    /** That duel() throws NoSuchElementException. */
     void dueThrow(DuelRound d, int x, int y, int what) {
+        dueThrow("", d, x, y, what);
+    }
+
+    /** That duel() throws NoSuchElementException. */
+    void dueThrow(String by, DuelRound d, int x, int y, int what) {
         int thrown = 0;
         try {
             d.duel(x, y, what);
         } catch (NoSuchElementException e) {
             thrown = 1;
         }
-        due("duel(" + x + ", " + y + ", " + what + ") throws", thrown, 1);
+        due(by + "duel(" + x + ", " + y + ", " + what + ") throws", thrown, 1);
     }
 
     void end() {
@@ -77,5 +81,24 @@ final class Check {
             throw new IllegalStateException("no round: " + text);
         }
         return d;
+    }
+
+    /** All that can be asked of what an object holds, but for the signs of THE TEXT themselves. */
+    static String state(DuelRound d) {
+        StringBuilder b = new StringBuilder();
+        for (int what = 0; what <= 5; what++) {
+            b.append(d.count(what)).append(' ');
+        }
+        int n = d.count(0);
+        for (int x = 0; x < n; x++) {
+            b.append('/').append(d.beaten(x, (1 << n) - 1));
+        }
+        for (int what = 0; what <= 3; what++) {
+            b.append(' ').append(d.judged(what));
+        }
+        for (int k = 0; k <= 1; k++) {
+            b.append(" kept ").append(d.alike(k, 0)).append(' ').append(d.alike(k, 1));
+        }
+        return b.toString();
     }
 }

@@ -1,12 +1,9 @@
 /** Each promise by hand: ordinary inputs, the edges that the document names, wrong inputs. */
 public final class PromiseTest {
-    private static final String CYCLE = "a>b;b>c;c>a";
-    /** a beats all behind, and so on. */
-    private static final String LINE = "a>b;a>c;a>d;b>c;b>d;c>d";
-    /** As LINE, but d beats a. */
-    private static final String BENT = "a>b;a>c;d>a;b>c;b>d;c>d";
-    /** x beats the next one, the next but one, and the fourth behind, of seven in a ring. */
-    private static final String RING = ring();
+    private static final String CYCLE = Rounds.CYCLE;
+    private static final String LINE = Rounds.LINE;
+    private static final String BENT = Rounds.BENT;
+    private static final String RING = Rounds.RING;
 
     private static final int MIN = Integer.MIN_VALUE;
     private static final int MAX = Integer.MAX_VALUE;
@@ -46,23 +43,6 @@ public final class PromiseTest {
         alike();
         count();
         CHECK.end();
-    }
-
-    private static String ring() {
-        StringBuilder b = new StringBuilder();
-        for (int x = 0; x < 7; x++) {
-            for (int step : new int[] {1, 2, 4}) {
-                b.append(b.length() == 0 ? "" : ";").append((char) ('a' + x)).append('>');
-                b.append((char) ('a' + (x + step) % 7));
-            }
-        }
-        return b.toString();
-    }
-
-    private static DuelRound alone() {
-        DuelRound d = new DuelRound();
-        d.drawn(1, 0);
-        return d;
     }
 
     private static void due(String call, long got, long want) {
@@ -293,7 +273,7 @@ public final class PromiseTest {
         due("a ninth with others", d.join(256), -1);
         due("arrows", d.count(1), 28);
         due("acts", d.count(4), 5);
-        DuelRound one = alone();
+        DuelRound one = Rounds.alone();
         due("join of one", one.join(1), 2);
         due("who beats", one.duel(1, 0, 0), 1);
     }
@@ -339,9 +319,8 @@ public final class PromiseTest {
         setsThatDiffer();
     }
 
-    /** e COVERS b, and without b c COVERS a; a is first in the CHAIN a, d, b. */
     private static void setsThatDiffer() {
-        DuelRound d = Check.of("a>b;c>a;a>d;e>a;b>c;d>b;e>b;c>d;e>c;d>e");
+        DuelRound d = Check.of(Rounds.FIVE);
         int[] sets = {31, 16, 29, 28, 29, 16, 28, 28, 28, 0};
         for (int kind = 0; kind < 10; kind++) {
             due("five: set(" + kind + ", all)", d.set(kind, 31), sets[kind]);
@@ -400,7 +379,7 @@ public final class PromiseTest {
         due("others", d.chain(0, 31, -1), -1);
         due("no player", d.chain(4, 15, -1), -1);
         due("below", d.chain(-1, 15, -1), -1);
-        due("one alone", alone().chain(0, 1, -1), 1);
+        due("one alone", Rounds.alone().chain(0, 1, -1), 1);
         DuelRound ring = Check.of(RING);
         // d, f, g beat a; d, f, g do not all beat b: a, b is topped by f alone; c stops f.
         due("ring: length", ring.chain(0, 127, -1), 3);
@@ -421,10 +400,10 @@ public final class PromiseTest {
         }
         DuelRound ring = Check.of(RING);
         due("ring: turned", ring.best(0), 7);
-        due("one: turned", alone().best(0), 0);
-        due("one: how many", alone().best(1), 1);
-        due("one: first", alone().best(10), 0);
-        due("one: second", alone().best(11), -1);
+        due("one: turned", Rounds.alone().best(0), 0);
+        due("one: how many", Rounds.alone().best(1), 1);
+        due("one: first", Rounds.alone().best(10), 0);
+        due("one: second", Rounds.alone().best(11), -1);
         DuelRound two = Check.of("b>a");
         due("two: first", two.best(10), 1);
         due("two: second", two.best(11), 0);
@@ -441,7 +420,7 @@ public final class PromiseTest {
         due("cycle: turned", Check.of(CYCLE).byWins(0), 1);
         due("cycle the other way: turned", Check.of("b>a;c>b;a>c").byWins(0), 2);
         due("cycle the other way: more", Check.of("b>a;c>b;a>c").byWins(1), 1);
-        due("one", alone().byWins(0), 0);
+        due("one", Rounds.alone().byWins(0), 0);
     }
 
     private static void weight() {
@@ -456,7 +435,7 @@ public final class PromiseTest {
         due("below", d.weight(-1, 0), MIN);
         due("what 2", d.weight(0, 2), MIN);
         due("what -1", d.weight(0, -1), MIN);
-        DuelRound five = Check.of("b>a;c>a;a>d;a>e;c>b;b>d;e>b;d>c;c>e;e>d");
+        DuelRound five = Check.of(Rounds.UNLIKE_WEIGHTS);
         int[] unlike = {1, 1, 3, 3, 1};
         for (int x = 0; x < 5; x++) {
             due("five: weight(" + x + ", 0)", five.weight(x, 0), unlike[x]);
@@ -465,7 +444,7 @@ public final class PromiseTest {
         due("line: a", Check.of(LINE).weight(0, 0), 1);
         due("line: d", Check.of(LINE).weight(3, 0), 0);
         due("line: d gains", Check.of(LINE).weight(3, 1), -1);
-        due("one", alone().weight(0, 0), 1);
+        due("one", Rounds.alone().weight(0, 0), 1);
     }
 
     private static void keeps() {
@@ -540,9 +519,9 @@ public final class PromiseTest {
         due("eight: all but h are alike", eight.cup(0, -1), 5760);
         due("eight: h", eight.cup(7, -1), 0);
         due("eight: h has no row", eight.cup(7, 0), -3);
-        due("one", alone().cup(0, -1), 1);
-        due("one, first", alone().cup(0, 0), 0);
-        due("one, second", alone().cup(0, 1), -1);
+        due("one", Rounds.alone().cup(0, -1), 1);
+        due("one, first", Rounds.alone().cup(0, 0), 0);
+        due("one, second", Rounds.alone().cup(0, 1), -1);
     }
 
     private static void winner() {
@@ -558,8 +537,8 @@ public final class PromiseTest {
         DuelRound three = Check.of(CYCLE);
         due("three", three.winner(0), -3);
         due("three, others", three.winner(8), -1);
-        due("one", alone().winner(0), 0);
-        due("one, all", alone().winner(1), 0);
+        due("one", Rounds.alone().winner(0), 0);
+        due("one, all", Rounds.alone().winner(1), 0);
         due("two", Check.of("b>a").winner(0), 1);
         DuelRound eight = Check.of(RING);
         eight.join(127);
@@ -676,11 +655,11 @@ public final class PromiseTest {
         due("eight: arrows stay", eight.count(2), 0);
         due("eight: acts stay", eight.count(4), 7);
         due("three to the cup", Check.of(CYCLE).fewest(0, 9), -2);
-        due("one to the cup", alone().fewest(0, 9), 0);
+        due("one to the cup", Rounds.alone().fewest(0, 9), 0);
     }
 
     private static void selves() {
-        due("one", alone().selves(), 1);
+        due("one", Rounds.alone().selves(), 1);
         due("cycle", Check.of(CYCLE).selves(), 3);
         due("line", Check.of(LINE).selves(), 1);
         DuelRound ring = Check.of(RING);
@@ -801,6 +780,6 @@ public final class PromiseTest {
             due("line: count(" + what + ")", d.count(what), then[what]);
         }
         due("ring: cycles", Check.of(RING).count(2), 14);
-        due("one: beats all others", alone().count(5), 1);
+        due("one: beats all others", Rounds.alone().count(5), 1);
     }
 }
