@@ -1018,6 +1018,8 @@ public final class DuelRound {
 
     /** ORDERS, by the fewest TURNED ARROWS of each set of PLAYERS. */
     private static final class Orders {
+        private static final int MORE_THAN_ALL = MOST_PLAYERS * MOST_PLAYERS;
+
         final Duels duels;
         final int[] turned = new int[ALL_SETS];
         final int[] ways = new int[ALL_SETS];
@@ -1034,7 +1036,7 @@ public final class DuelRound {
                 if ((set & ~some) != 0) {
                     continue;
                 }
-                turned[set] = Integer.MAX_VALUE;
+                turned[set] = MORE_THAN_ALL;
                 ways[set] = 0;
                 for (int x = 0; x < duels.players; x++) {
                     if (bitOf(set, x) == 0) {

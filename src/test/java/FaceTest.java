@@ -23,11 +23,32 @@ public final class FaceTest {
         "int judge()", "int judged(int)", "int fewest(int,int)", "int selves()", "int undo()", "boolean keep(int)",
         "boolean again(int)", "int alike(int,int)", "int count(int)"};
 
+    /** A sentence of LANGUAGE.md, then what of the source it rules out (some are ruled out by choice). */
+    private static final String[][] RULED_OUT = {
+        {"without a package line", "\\bpackage\\b"},
+        {"no other public, protected or package-visible member", "\\bprotected\\b"},
+        {"no lambda, no method reference", "->", "::"},
+        {"Types: int, long, short, byte, char, boolean, double, float", "\\bvar\\b", "\\bObject\\b", "\\bString\\b"},
+        {"The library: only what stands here.", "\\bInteger\\.(?!bitCount\\()", "\\bMath\\.(?!(max|min|abs)\\()",
+            "\\bSystem\\.(?!arraycopy\\()", "\\bLong\\b", "\\bArrays\\b",
+            "\\bimport (?!java\\.util\\.NoSuchElementException;)"},
+        {"none of those whose name ends in Exact", "Exact\\b"},
+        {"No other static state, no static initialiser block.", "\\bstatic \\{", "\\bstatic (?!final|int|boolean)"},
+        {"try with one or more catches", "\\btry\\b", "\\bcatch\\b"},
+        {"No finally, no try with resources", "\\bfinally\\b"},
+        {"No synchronized, assert, switch with patterns, record patterns.", "\\bsynchronized\\b", "\\bassert\\b"},
+        {"a cast only behind the test that makes it safe", "\\binstanceof\\b", "\\((?!int|long|char)\\w+\\) ?[\\w(]+;"},
+        {"No equals, hashCode or toString of your own objects or records", "\\bequals\\b", "\\bhashCode\\b",
+            "\\btoString\\b"},
+        {"No clock, no randomness, no file, network, thread or environment", "\\bRandom\\b", "\\bThread\\b", "\\bFile"},
+    };
+
     public static void main(String[] args) throws IOException {
         methods();
         fields();
         nested();
         source(Files.readString(Path.of("src/main/java/DuelRound.java")));
+        rules(Path.of("../shared/LANGUAGE.md"));
         CHECK.end();
     }
 
@@ -94,14 +115,23 @@ public final class FaceTest {
             CHECK.due("a sign beyond 126 at " + i, text.charAt(i) <= 126, true);
         }
         String code = text.replaceAll("(?s)/\\*.*?\\*/", "").replaceAll("//[^\n]*", "");
-        String[] forbidden = {"->", "::", "\\bcatch\\b", "\\bfinally\\b", "\\bsynchronized\\b", "\\bassert\\b",
-            "Exact\\b", "\\bSystem\\.(?!arraycopy)", "\\bRandom\\b", "\\bThread\\b", "\\bString\\b", "\\bpackage\\b",
-            "\\bprotected\\b", "\\bstatic \\{", "\\binstanceof\\b", "\\bMath\\.(?!max|min|abs)", "\\bvar\\b",
-            "\\bInteger\\.(?!bitCount|MAX_VALUE|MIN_VALUE)", "\\bimport (?!java\\.util\\.NoSuchElementException;)"};
-        for (String pattern : forbidden) {
-            Matcher m = Pattern.compile(pattern).matcher(code);
-            CHECK.due("the source has " + pattern, m.find(), false);
+        // Rule 4 lists functions of Integer alone; its one constant is in the face that the document tells.
+        String nothing = "int NOTHING = Integer.MIN_VALUE;";
+        CHECK.due("the source has " + nothing, code.contains(nothing), true);
+        String ownCode = code.replace(nothing, "");
+        for (String[] one : RULED_OUT) {
+            for (int i = 1; i < one.length; i++) {
+                Matcher m = Pattern.compile(one[i]).matcher(ownCode);
+                boolean found = m.find();
+                CHECK.due("LANGUAGE.md - \"" + one[0] + "\": the source has "
+                        + (found ? m.group() : one[i]), found, false);
+            }
         }
+        throwing(code);
+        lengths(code);
+    }
+
+    private static void throwing(String code) {
         Matcher thrown = Pattern.compile("throw new (\\w+)\\(\"[^\"]*\"\\)").matcher(code);
         int throwing = 0;
         while (thrown.find()) {
@@ -113,6 +143,29 @@ public final class FaceTest {
         Matcher made = Pattern.compile("(?m)^(.*)\\bnew (?!NoSuchElementException)").matcher(code);
         while (made.find()) {
             CHECK.due("made once: " + made.group(1), made.group(1).matches(" *(private )?final .*= *"), true);
+        }
+    }
+
+    private static void lengths(String code) {
+        Matcher m = Pattern.compile("(?ms)^( +)(?=\\w)(?:[\\w ]+ )?(\\w+)\\([\\w, \\[\\]]*\\)[\\w ]* \\{$.*?^\\1\\}$").matcher(code);
+        int methods = 0;
+        while (m.find()) {
+            methods++;
+            CHECK.due("LANGUAGE.md - \"Methods stay short (some sixty lines)\": " + m.group(2),
+                    m.group().lines().count() <= 60, true);
+        }
+        CHECK.due("there are methods, the face's at least", methods > METHODS.length, true);
+    }
+
+    /** The sentences stand in LANGUAGE.md, so that they are those of the rules as they are now. */
+    private static void rules(Path language) throws IOException {
+        if (!Files.isReadable(language)) {
+            System.out.println("not read, so rules are not compared with it: " + language);
+            return;
+        }
+        String rules = Files.readString(language);
+        for (String[] one : RULED_OUT) {
+            CHECK.due("'" + one[0] + "' stands in LANGUAGE.md", rules.contains(one[0]), true);
         }
     }
 }
